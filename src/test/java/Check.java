@@ -1,0 +1,103 @@
+/** What the tests share: answers are compared, tapes are fed. */
+final class Check {
+    /** Stands for an answer that is a NoSuchElementException. */
+    static final long THROWS = Long.MIN_VALUE + 77;
+
+    private static int wrong = 0;
+    private static int compared = 0;
+
+    private Check() {
+    }
+
+    static void due(String what, long got, long want) {
+        compared++;
+        if (got != want) {
+            wrong++;
+            if (wrong <= 40) {
+                System.out.println(what + " answered " + got + ", due is " + want);
+            }
+        }
+    }
+
+    static void due(String what, boolean got, boolean want) {
+        due(what, got ? 1 : 0, want ? 1 : 0);
+    }
+
+    static int wrong() {
+        return wrong;
+    }
+
+    static void finish() {
+        System.out.println(compared + " answers compared, " + wrong + " wrong");
+        if (wrong != 0 || compared == 0) {
+            System.exit(1);
+        }
+    }
+
+    /** Puts bytes behind an empty tape. */
+    static void tell(GridColours x, int... bytes) {
+        int[] numbers = new int[(bytes.length + 19) / 20 * 5];
+        for (int i = 0; i < bytes.length; i++) {
+            numbers[i / 4] |= (bytes[i] & 255) << (24 - 8 * (i % 4));
+        }
+        for (int i = 0; i < numbers.length; i += 5) {
+            x.feed(numbers[i], numbers[i + 1], numbers[i + 2], numbers[i + 3], numbers[i + 4]);
+        }
+        x.end(bytes.length);
+    }
+
+    static void tell(GridColours x, String text) {
+        tell(x, bytesOf(text));
+    }
+
+    static int[] bytesOf(String text) {
+        int[] bytes = new int[text.length()];
+        for (int i = 0; i < bytes.length; i++) {
+            bytes[i] = text.charAt(i);
+        }
+        return bytes;
+    }
+
+    /** A new object with the grid of a text. */
+    static GridColours with(String text) {
+        GridColours x = new GridColours();
+        tell(x, text);
+        if (x.text() < 0) {
+            due("text() of " + text, 0, 1);
+        }
+        return x;
+    }
+
+    static long having(GridColours x, int colour) {
+        try {
+            return x.having(colour);
+        } catch (java.util.NoSuchElementException e) {
+            return THROWS;
+        }
+    }
+
+    static long mend(GridColours x) {
+        try {
+            return x.mend();
+        } catch (java.util.NoSuchElementException e) {
+            return THROWS;
+        }
+    }
+
+    /** The colours of all cells, written one after the other. */
+    static String cells(GridColours x) {
+        StringBuilder all = new StringBuilder();
+        for (int cell = 0; cell < x.now(0) * x.now(1); cell++) {
+            all.append(x.at(cell));
+        }
+        return all.toString();
+    }
+
+    static void dueCells(String what, GridColours x, String want) {
+        String got = cells(x);
+        if (!got.equals(want)) {
+            System.out.println(what + ": cells are " + got + ", due are " + want);
+        }
+        due(what, got.equals(want), true);
+    }
+}
