@@ -21,6 +21,7 @@ public final class GridColours {
     private static final int FILLED = 1;
     private static final int OUT_OF_TRIES = 2;
 
+    private static final long CELL_63 = 1L << 63;
     private static final int MEND_CELLS = 3;
     /** No set of three cells; and, without a sign, more than every such set. */
     private static final long NO_MEND = -1L;
@@ -365,7 +366,7 @@ public final class GridColours {
 
     /** Cell 63 is the sign of a long, but counts most in a set: so the sign is turned for comparing. */
     private static boolean isLess(long a, long b) {
-        return (a ^ Long.MIN_VALUE) < (b ^ Long.MIN_VALUE);
+        return (a ^ CELL_63) < (b ^ CELL_63);
     }
 
     private static boolean isOpenSize(int m, int n) {

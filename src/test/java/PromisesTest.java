@@ -175,6 +175,12 @@ public final class PromisesTest {
         dueFault("grid 100 1 1;", 5, 1);
         dueFault("grid 001 1 1;", 5, 1);
         dueFault("grid 1a 1 1;", 5, 1);
+        dueFault("grid 1z 1 1;", 5, 1);
+        dueFault("grid z 1 1;", 5, 1);
+        dueFault("grid 1` 1 1;", 6, 1);
+        dueFault("grid 1{ 1 1;", 6, 1);
+        dueFault("grid 1/ 1 1;", 6, 1);
+        dueFault("grid 1: 1 1;", 6, 1);
         dueFault("grid 1 0 1;", 7, 2);
         dueFault("grid 1 9 1;", 7, 2);
         dueFault("grid 1 1 0;", 9, 2);
@@ -537,6 +543,18 @@ public final class PromisesTest {
         due("20 out of tries", long5.fill(), NONE);
         due("20 no act", long5.now(5), 0);
         due("18 4 by 6 is told", Check.with("grid 4 6 2;").search(0), 1808);
+        String last = ";row 0 0 0 0 0;row 0 0 0 0 0;row 0 0 0 0 0;row 0 3 0 0 0;row 0 0 0 3 0;";
+        GridColours oneLess = Check.with("grid 7 5 3" + last);
+        due("18 one try less than all", oneLess.search(0), 19999);
+        due("18 one try less than all: filled", oneLess.search(1), 1);
+        due("20 one try less than all", oneLess.fill(), 33);
+        // The last try colours the last blank cell, but the search ended with it, whatever came of it.
+        GridColours all = Check.with("grid 7 5 3;row 0 0 0 0 0;row 0 0 0 0 0;row 1 0 0 0 0;row 0 0 0 0 0;"
+            + "row 0 0 0 0 0;row 3 0 0 0 0;row 0 2 0 0 0;");
+        due("18 the last try fits", all.search(0), 20000);
+        due("18 the last try fits: how", all.search(1), 2);
+        due("19 the last try fits", all.found(34), NONE);
+        due("20 the last try fits", all.fill(), NONE);
     }
 
     private static void found() {
