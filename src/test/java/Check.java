@@ -68,6 +68,49 @@ final class Check {
         return x;
     }
 
+    /** Feeds a text behind an empty tape: what text() answers. */
+    static int told(GridColours x, String text) {
+        tell(x, text);
+        return x.text();
+    }
+
+    /** A text with all rows told; the colours of the cells come one after the other. */
+    static String textOf(int high, int wide, int colours, String cells) {
+        StringBuilder text = new StringBuilder();
+        text.append("grid ").append(high).append(' ').append(wide).append(' ').append(colours).append(';');
+        for (int cell = 0; cell < cells.length(); cell++) {
+            text.append(cell % wide == 0 ? "row " : " ").append(cells.charAt(cell));
+            text.append(cell % wide == wide - 1 ? ";" : "");
+        }
+        return text.toString();
+    }
+
+    /** A new object with a grid whose rows are all told. */
+    static GridColours grid(int high, int wide, int colours, String cells) {
+        return with(textOf(high, wide, colours, cells));
+    }
+
+    /** The text is refused at a place, with a kind, and all stays. */
+    static void dueFault(String text, int place, int kind) {
+        GridColours x = with("grid 1 1 2;row 2;");
+        x.paint(0, 1);
+        due("4 place in " + text, told(x, text), -1 - place);
+        due("5 kind in " + text, x.fault(), kind);
+        due("4 the tape is empty after " + text, x.now(6), 0);
+        due("4 the cell stays at " + text, x.at(0), 1);
+        due("4 the act stays at " + text, x.undo(), 0);
+        due("4 what it undoes stays at " + text, x.at(0), 2);
+    }
+
+    static void dueText(String text, int lines) {
+        GridColours x = with("grid 1 1 2;row 2;");
+        x.paint(0, 1);
+        due("4 lines of " + text, told(x, text), lines);
+        due("5 no fault in " + text, x.fault(), 0);
+        due("4 the tape is empty after " + text, x.now(6), 0);
+        due("4 nothing can be undone after " + text, x.undo(), GridColours.NONE);
+    }
+
     static long having(GridColours x, int colour) {
         try {
             return x.having(colour);

@@ -119,133 +119,121 @@ public final class PromisesTest {
 
     private static void text() {
         GridColours x = new GridColours();
-        due("4 lines", told(x, "grid 2 3 4;row 0 1 2;row 3 4 0;"), 3);
+        due("4 lines", Check.told(x, "grid 2 3 4;row 0 1 2;row 3 4 0;"), 3);
         Check.dueCells("4 cells", x, "012340");
         due("4 tape is empty", x.now(6), 0);
-        due("4 blanks and none", told(x, "  grid\n08 8 04\n;row 1 2 3 4 0 1 2 3;\n"), 2);
+        due("4 blanks and none", Check.told(x, "  grid\n08 8 04\n;row 1 2 3 4 0 1 2 3;\n"), 2);
         due("4 rows", x.now(0), 8);
         due("4 blank rows", x.now(3), 57);
-        due("4 close", told(x, "grid 1 2 1 ;row 1 00;"), 2);
+        due("4 close", Check.told(x, "grid 1 2 1 ;row 1 00;"), 2);
         Check.dueCells("4 close cells", x, "10");
         x.paint(1, 1);
         due("4 an act", x.now(5), 1);
-        due("4 a fault", told(x, "grid 1 2 1"), -11);
+        due("4 a fault", Check.told(x, "grid 1 2 1"), -11);
         due("4 a fault: tape is empty", x.now(6), 0);
         due("4 a fault: acts stay", x.now(5), 1);
         Check.dueCells("4 a fault: cells stay", x, "11");
-        due("4 new text", told(x, "grid 1 1 1;"), 1);
+        due("4 new text", Check.told(x, "grid 1 1 1;"), 1);
         due("4 nothing to undo", x.undo(), NONE);
         x.paint(0, 1);
-        due("4 blanks alone", told(x, " \n "), 0);
+        due("4 blanks alone", Check.told(x, " \n "), 0);
         due("4 no grid", x.now(0), 0);
         due("4 no columns", x.now(1), 0);
         due("4 no colours", x.now(2), 0);
         due("4 empty: nothing to undo", x.undo(), NONE);
-        due("4 largest", told(x, "grid 8 8 4;" + "row 1 2 3 4 1 2 3 4;".repeat(8)), 9);
-        due("4 rows that are not told are blank anew", told(x, "grid 8 8 4;"), 1);
+        due("4 largest", Check.told(x, "grid 8 8 4;" + "row 1 2 3 4 1 2 3 4;".repeat(8)), 9);
+        due("4 rows that are not told are blank anew", Check.told(x, "grid 8 8 4;"), 1);
         due("4 all blank", x.now(3), 64);
     }
 
-    private static int told(GridColours x, String text) {
-        Check.tell(x, text);
-        return x.text();
-    }
-
-    private static void dueFault(String text, int place, int kind) {
-        GridColours x = Check.with("grid 1 1 2;row 2;");
-        due("4 place in " + text, told(x, text), -1 - place);
-        due("5 kind in " + text, x.fault(), kind);
-        due("4 stays at " + text, x.at(0), 2);
-    }
-
     private static void textFaults() {
-        dueFault("row 1;", 0, 1);
-        dueFault(";", 0, 1);
-        dueFault("  7", 2, 1);
-        dueFault("gridd 1 1 1;", 0, 1);
-        dueFault("gri 1 1 1;", 0, 1);
-        dueFault("Grid 1 1 1;", 0, 1);
-        dueFault("grid2 2 2;", 0, 1);
-        dueFault("grid", 4, 1);
-        dueFault("grid  \n", 7, 1);
-        dueFault("grid;", 4, 1);
-        dueFault("grid 0 1 1;", 5, 2);
-        dueFault("grid 9 1 1;", 5, 2);
-        dueFault("grid 10 1 1;", 5, 2);
-        dueFault("grid 100 1 1;", 5, 1);
-        dueFault("grid 001 1 1;", 5, 1);
-        dueFault("grid 1a 1 1;", 5, 1);
-        dueFault("grid 1z 1 1;", 5, 1);
-        dueFault("grid z 1 1;", 5, 1);
-        dueFault("grid 1` 1 1;", 6, 1);
-        dueFault("grid 1{ 1 1;", 6, 1);
-        dueFault("grid 1/ 1 1;", 6, 1);
-        dueFault("grid 1: 1 1;", 6, 1);
-        dueFault("grid 1 0 1;", 7, 2);
-        dueFault("grid 1 9 1;", 7, 2);
-        dueFault("grid 1 1 0;", 9, 2);
-        dueFault("grid 1 1 5;", 9, 2);
-        dueFault("grid 1 1 1 1;", 11, 1);
-        dueFault("grid 1 1 1", 10, 1);
-        dueFault("grid 1 1 1 row", 11, 1);
-        dueFault("grid 1 1 1;grid 1 1 1;", 11, 1);
-        dueFault("grid 1 1 1;;", 11, 1);
-        dueFault("grid 1 1 1;1", 11, 1);
-        dueFault("grid 1 1 1;rows 1;", 11, 1);
-        dueFault("grid 1 1 1;row;", 14, 1);
-        dueFault("grid 1 1 1;row", 14, 1);
-        dueFault("grid 1 1 1;row 2;", 15, 2);
-        dueFault("grid 1 1 1;row 1", 16, 1);
-        dueFault("grid 1 1 1;row 1 9;", 17, 1);
-        dueFault("grid 1 1 1;row 1;row 9;", 17, 3);
-        dueFault("grid 1 1 1;row 1;grid", 17, 1);
-        dueFault("grid 1 2 3;row 3;", 16, 1);
-        dueFault("grid 1 2 3;row 4;", 15, 2);
-        dueFault("grid 1 1 1;\t", 11, 1);
-        dueFault("grid 1 1 1;\r", 11, 1);
-        dueFault("grid 1 1 1;" + (char) 0, 11, 1);
-        dueFault("grid 1 1 1;" + (char) 255, 11, 1);
-        dueFault("grid 1 1 1;row -1;", 15, 1);
-        dueFault("grid,1 1 1;", 4, 1);
+        Check.dueFault("row 1;", 0, 1);
+        Check.dueFault(";", 0, 1);
+        Check.dueFault("  7", 2, 1);
+        Check.dueFault("gridd 1 1 1;", 0, 1);
+        Check.dueFault("gri 1 1 1;", 0, 1);
+        Check.dueFault("Grid 1 1 1;", 0, 1);
+        Check.dueFault("grid2 2 2;", 0, 1);
+        Check.dueFault("grid", 4, 1);
+        Check.dueFault("grid  \n", 7, 1);
+        Check.dueFault("grid;", 4, 1);
+        Check.dueFault("grid 0 1 1;", 5, 2);
+        Check.dueFault("grid 9 1 1;", 5, 2);
+        Check.dueFault("grid 10 1 1;", 5, 2);
+        Check.dueFault("grid 100 1 1;", 5, 1);
+        Check.dueFault("grid 001 1 1;", 5, 1);
+        Check.dueFault("grid 1a 1 1;", 5, 1);
+        Check.dueFault("grid 1z 1 1;", 5, 1);
+        Check.dueFault("grid z 1 1;", 5, 1);
+        Check.dueFault("grid 1` 1 1;", 6, 1);
+        Check.dueFault("grid 1{ 1 1;", 6, 1);
+        Check.dueFault("grid 1/ 1 1;", 6, 1);
+        Check.dueFault("grid 1: 1 1;", 6, 1);
+        Check.dueFault("grid 1 0 1;", 7, 2);
+        Check.dueFault("grid 1 9 1;", 7, 2);
+        Check.dueFault("grid 1 1 0;", 9, 2);
+        Check.dueFault("grid 1 1 5;", 9, 2);
+        Check.dueFault("grid 1 1 1 1;", 11, 1);
+        Check.dueFault("grid 1 1 1", 10, 1);
+        Check.dueFault("grid 1 1 1 row", 11, 1);
+        Check.dueFault("grid 1 1 1;grid 1 1 1;", 11, 1);
+        Check.dueFault("grid 1 1 1;;", 11, 1);
+        Check.dueFault("grid 1 1 1;1", 11, 1);
+        Check.dueFault("grid 1 1 1;rows 1;", 11, 1);
+        Check.dueFault("grid 1 1 1;row;", 14, 1);
+        Check.dueFault("grid 1 1 1;row", 14, 1);
+        Check.dueFault("grid 1 1 1;row 2;", 15, 2);
+        Check.dueFault("grid 1 1 1;row 1", 16, 1);
+        Check.dueFault("grid 1 1 1;row 1 9;", 17, 1);
+        Check.dueFault("grid 1 1 1;row 1;row 9;", 17, 3);
+        Check.dueFault("grid 1 1 1;row 1;grid", 17, 1);
+        Check.dueFault("grid 1 2 3;row 3;", 16, 1);
+        Check.dueFault("grid 1 2 3;row 4;", 15, 2);
+        Check.dueFault("grid 1 1 1;\t", 11, 1);
+        Check.dueFault("grid 1 1 1;\r", 11, 1);
+        Check.dueFault("grid 1 1 1;" + (char) 0, 11, 1);
+        Check.dueFault("grid 1 1 1;" + (char) 255, 11, 1);
+        Check.dueFault("grid 1 1 1;row -1;", 15, 1);
+        Check.dueFault("grid,1 1 1;", 4, 1);
     }
 
     private static void textTooLong() {
         String start = "grid 1 1 1;";
         GridColours x = new GridColours();
-        due("4 400 bytes", told(x, start + " ".repeat(389)), 1);
-        dueFault(start + " ".repeat(390), 400, 1);
-        dueFault(start + " ".repeat(389) + "?", 400, 1);
-        dueFault(start + " ".repeat(388) + "?", 399, 1);
-        dueFault(start + " ".repeat(388) + "row 1;", 400, 1);
-        dueFault(start + " ".repeat(385) + "row 1;", 400, 1);
-        dueFault(start + " ".repeat(388) + "rowx 1;", 399, 1);
-        dueFault(start + " ".repeat(384) + "row 02;", 399, 2);
-        dueFault(start + " ".repeat(384) + "row 001;", 399, 1);
-        dueFault(start + " ".repeat(384) + "row 01;", 400, 1);
-        dueFault(start + "row 1;" + " ".repeat(382) + "row 1;", 399, 3);
-        dueFault(start + " ".repeat(384) + "row  ", 400, 1);
-        dueFault(" ".repeat(440), 400, 1);
-        due("4 blanks alone, 400", told(x, " ".repeat(400)), 0);
+        due("4 400 bytes", Check.told(x, start + " ".repeat(389)), 1);
+        Check.dueFault(start + " ".repeat(390), 400, 1);
+        Check.dueFault(start + " ".repeat(389) + "?", 400, 1);
+        Check.dueFault(start + " ".repeat(388) + "?", 399, 1);
+        Check.dueFault(start + " ".repeat(388) + "row 1;", 400, 1);
+        Check.dueFault(start + " ".repeat(385) + "row 1;", 400, 1);
+        Check.dueFault(start + " ".repeat(388) + "rowx 1;", 399, 1);
+        Check.dueFault(start + " ".repeat(384) + "row 02;", 399, 2);
+        Check.dueFault(start + " ".repeat(384) + "row 001;", 399, 1);
+        Check.dueFault(start + " ".repeat(384) + "row 01;", 400, 1);
+        Check.dueFault(start + "row 1;" + " ".repeat(382) + "row 1;", 399, 3);
+        Check.dueFault(start + " ".repeat(384) + "row  ", 400, 1);
+        Check.dueFault(" ".repeat(440), 400, 1);
+        due("4 blanks alone, 400", Check.told(x, " ".repeat(400)), 0);
     }
 
     private static void fault() {
         GridColours x = new GridColours();
         due("5 ahead of any", x.fault(), 0);
-        told(x, "grid 9 1 1;");
+        Check.told(x, "grid 9 1 1;");
         due("5 two", x.fault(), 2);
         due("5 again", x.fault(), 2);
-        told(x, "grid 1 1 1;");
+        Check.told(x, "grid 1 1 1;");
         due("5 none", x.fault(), 0);
-        told(x, "grid 1 1 1;row 1;row 1;");
+        Check.told(x, "grid 1 1 1;row 1;row 1;");
         due("5 three", x.fault(), 3);
         x.image(0);
         x.restore(0);
         x.paint(0, 1);
         x.lay();
         due("5 stays", x.fault(), 3);
-        told(x, "?");
+        Check.told(x, "?");
         due("5 one", x.fault(), 1);
-        told(x, "");
+        Check.told(x, "");
         due("5 an empty text", x.fault(), 0);
     }
 
