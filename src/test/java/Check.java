@@ -3,14 +3,18 @@ final class Check {
     /** Stands for an answer that is a NoSuchElementException. */
     static final long THROWS = Long.MIN_VALUE + 77;
 
+    private static final int PROMISES = 32;
+
     private static int wrong = 0;
     private static int compared = 0;
+    private static final int[] comparedFor = new int[PROMISES + 1];
 
     private Check() {
     }
 
     static void due(String what, long got, long want) {
         compared++;
+        comparedFor[promiseOf(what)]++;
         if (got != want) {
             wrong++;
             if (wrong <= 40) {
@@ -25,6 +29,23 @@ final class Check {
 
     static int wrong() {
         return wrong;
+    }
+
+    /** The promise with whose number a label begins; 0 if it begins with none. */
+    private static int promiseOf(String what) {
+        int number = 0;
+        for (int i = 0; i < what.length() && i < 2 && Character.isDigit(what.charAt(i)); i++) {
+            number = 10 * number + what.charAt(i) - '0';
+        }
+        return number <= PROMISES ? number : 0;
+    }
+
+    /** Ends a test that says of itself that it has answers for each promise. */
+    static void finishWithAllPromises() {
+        for (int promise = 1; promise <= PROMISES; promise++) {
+            due("an answer for promise " + promise, comparedFor[promise] > 0, true);
+        }
+        finish();
     }
 
     static void finish() {

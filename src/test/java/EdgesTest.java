@@ -52,7 +52,7 @@ public final class EdgesTest {
         undoKeepsEight();
         imageEdges();
         restoreEdges();
-        Check.finish();
+        Check.finishWithAllPromises();
     }
 
     private static void due(String what, long got, long want) {

@@ -44,7 +44,7 @@ public final class PromisesTest {
         undoKeepsEight();
         image();
         restore();
-        Check.finish();
+        Check.finishWithAllPromises();
     }
 
     private static void due(String what, long got, long want) {
